@@ -1368,19 +1368,22 @@ public final class FrothShire {
             }
             into.grows.units++;
             if (isSign('(')) {
-                if (mayNest(depth)) {
-                    advance();
-                    readPart(LEVEL_E, depth + 1);
-                    takeSign(')');
+                if (!mayNest(depth)) {
+                    return;
                 }
-                return;
+                advance();
+                readPart(LEVEL_E, depth + 1);
+                if (!isSign(')')) {
+                    blame(CANT_STAND);
+                }
+            } else {
+                int op = kind == NUMBER ? number : givenHere();
+                if (op == Formula.NOT) {
+                    blame(CANT_STAND);
+                }
+                into.grows.put(op);
             }
-            int op = kind == NUMBER ? number : givenHere();
-            if (op == Formula.NOT) {
-                blame(CANT_STAND);
-                return;
-            }
-            into.grows.put(op);
+            // A unit's last TOKEN stands here; behind a FAULT this does nothing.
             advance();
         }
 

@@ -12,7 +12,7 @@ public final class OracleTest {
     private final Texts texts;
     private FrothShire shire;
     private Oracle oracle;
-    private String sofar = "";
+    private final StringBuilder sofar = new StringBuilder();
 
     private OracleTest(long seed) {
         random = new Random(seed);
@@ -20,7 +20,7 @@ public final class OracleTest {
     }
 
     public static void main(String[] args) {
-        int runs = args.length > 0 ? Integer.parseInt(args[0]) : 400;
+        int runs = args.length > 0 ? Integer.parseInt(args[0]) : 200;
         long seed = args.length > 1 ? Long.parseLong(args[1]) : 1;
         OracleTest test = new OracleTest(seed);
         for (int run = 0; run < runs; run++) {
@@ -32,7 +32,8 @@ public final class OracleTest {
     private void run(int run) {
         shire = new FrothShire();
         oracle = new Oracle();
-        sofar = "run " + run + ": ";
+        sofar.setLength(0);
+        sofar.append("run ").append(run).append(": ");
         int asked = 0;
         if (random.nextInt(10) != 0) {
             asked = text();
@@ -70,7 +71,7 @@ public final class OracleTest {
     }
 
     private void same(String call, int got, int want) {
-        sofar += call + " " + want + "; ";
+        sofar.append(call).append(' ').append(want).append("; ");
         if (got != want) {
             System.out.println(sofar);
         }
