@@ -54,6 +54,7 @@ public final class FrothShire {
     private final int[] lying = new int[MOST_LORDS];
     private int lyingCount = 0;
 
+    /** Rows of noughts are the empty SHIRE, so nothing is left to be done. */
     public FrothShire() {
     }
 

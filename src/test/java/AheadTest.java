@@ -13,6 +13,7 @@ public final class AheadTest {
         promise25();
         promise26();
         promise27();
+        noStraws();
         promise36();
         CALLS.end();
     }
@@ -170,11 +171,39 @@ public final class AheadTest {
         CALLS.due("pricks(3, 5)", shire.pricks(3, 5), 7);
         CALLS.dueLying("pricks(3, 5)", shire, 0, 4);
         CALLS.due("about(1): nothing is done", shire.about(1), 63);
+        // the last of eight can be taken in, too
+        shire = Calls.told(FOUR + "lord e size 12 at d a b;lord f size 9 at a c b;lord g size 6 at e d a;"
+                + "lord h size 0 at c a f;flip f a;flip a b;");
+        CALLS.due("pricks(0, 2)", shire.pricks(0, 2), 1);
+        CALLS.dueLying("pricks(0, 2)", shire, 7, 3);
+        shire = Calls.told(FOUR + "lord e size 1 at c b a;lord f size 1 at d c a;lord g size 9 at c e b;"
+                + "lord h size 9 at b a e;flip b e;");
+        CALLS.due("pricks(3, 0)", shire.pricks(3, 0), 4);
+        CALLS.dueLying("pricks(3, 0)", shire, -1, 7);
         // no RESTS
         shire = Calls.told(FOUR + "lord e size 6 at c d b;lord f size 2 at c b e;lord g size 5 at b c a;");
         shire.ring(0);
         CALLS.due("pricks(5, 6)", shire.pricks(5, 6), 0);
         CALLS.dueLying("pricks(5, 6)", shire);
+    }
+
+    /** SEED 400 behind draw 17: CORNER 400 % 6 = 4 is 1 2 3, a straw would flip b c whatever straw tells above 0. */
+    private static void noStraws() {
+        String five = FIVE + "grows (sides=3)*(0-1)+(sides=4)*2;straw 100;draw 17;";
+        FrothShire shire = Calls.told(five);
+        CALLS.due("will(1, 2, 0)", shire.will(1, 2, 0), 9);
+        CALLS.due("will(1, 2, 1)", shire.will(1, 2, 1), 6);
+        CALLS.due("sides(1, 1)", shire.sides(1, 1), 4);
+        CALLS.due("left(3)", shire.left(3), 23);
+        CALLS.due("ending(3)", shire.ending(3), 3);
+        CALLS.due("season() with a straw", shire.season(), 0);
+        CALLS.due("lord(1, 2) with a straw", shire.lord(1, 2), 3);
+        // an octahedron
+        shire = Calls.told(FIVE + "lord f size 1 at b c d;flip b c;grows (sides=3)*(0-1);straw 100;draw 17;");
+        CALLS.due("boost(0, 2, 1)", shire.boost(0, 2, 1), 9);
+        CALLS.due("boost(5, 2, 0)", shire.boost(5, 2, 0), 1);
+        CALLS.due("boost(5, 2, 1)", shire.boost(5, 2, 1), 1);
+        CALLS.due("save(5, 3)", shire.save(5, 3), 1);
     }
 
     private static void promise36() {

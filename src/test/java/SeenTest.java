@@ -11,6 +11,7 @@ public final class SeenTest {
         promise40();
         promise41();
         promise42();
+        promise42Nothing();
         promise43();
         asItWasTold();
         CALLS.end();
@@ -120,9 +121,24 @@ public final class SeenTest {
         CALLS.due("sure(1, 3)", shire.sure(1, 3), 9);
         CALLS.due("sure(0, 2)", shire.sure(0, 2), 0);
         CALLS.due("sure(1, 2)", shire.sure(1, 2), 30);
+        shire.seen(8, 3, true);
+        CALLS.due("sure(0, 3) of one that FITS", shire.sure(0, 3), 9);
+        CALLS.due("sure(1, 3) of one that FITS", shire.sure(1, 3), 9);
         shire.seen(0, 8, true);
         CALLS.due("sure(0, 3) of no FITS", shire.sure(0, 3), -1);
         CALLS.due("sure(1, 3) of no FITS", shire.sure(1, 3), -1);
+    }
+
+    /** Of SIZE 0 he loses a side at once; else he has four for long. */
+    private static void promise42Nothing() {
+        FrothShire shire = Calls.told(
+                "lord a size 99;lord b size 99;lord c size 99;lord d size 99 at a b c;lord e size 1 at a b c;flip a b;");
+        shire.seen(1, 4, false);
+        CALLS.due("fits(0) of SIZE 0 alone", shire.fits(0), 1);
+        CALLS.due("sure(0, 0) of SIZE 0 alone", shire.sure(0, 0), 0);
+        CALLS.due("sure(1, 0) of SIZE 0 alone", shire.sure(1, 0), 0);
+        CALLS.due("ask(0, 0) of SIZE 0 alone", shire.ask(0, 0), 0);
+        CALLS.due("ask(1, 0) of SIZE 0 alone", shire.ask(1, 0), 1);
     }
 
     private static void promise43() {
@@ -146,6 +162,11 @@ public final class SeenTest {
         shire.seen(6, 1, true);
         CALLS.due("ask(0, 0) of no FITS", shire.ask(0, 0), -1);
         CALLS.due("ask(0, -1): not known then", shire.ask(0, -1), 12);
+        // 0 and 1 can't be told from one another, 2 can
+        shire = Calls.told(FOUR);
+        shire.seen(2, 1, false);
+        CALLS.due("ask(0, 0) of 0 .. 2", shire.ask(0, 0), 1);
+        CALLS.due("ask(1, 0) of 0 .. 2", shire.ask(1, 0), 2);
     }
 
     /** What was done since, and straws, do not matter; flips that were told do. */
@@ -165,6 +186,11 @@ public final class SeenTest {
         CALLS.due("fits(0) with a flip", shire.fits(0), 31);
         shire.seen(8, 4, true);
         CALLS.due("fits(0) of who keeps his SIDES", shire.fits(0), 30);
+        // SEED 400 behind draw 17: a straw would fall at once
+        shire = Calls.told(five + "grows 0;straw 100;draw 17;");
+        shire.seen(12, 3, true);
+        shire.seen(12, 4, false);
+        CALLS.due("fits(0): no straws", shire.fits(0), 30);
         // nothing else of the last LORD is unknown: one alone has no SIDES
         shire = Calls.told("lord a size 1;");
         shire.seen(3, 1, true);

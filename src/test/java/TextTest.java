@@ -9,6 +9,7 @@ public final class TextTest {
         promise2();
         promise3();
         promise4();
+        promise4Again();
         promise5();
         tokens();
         lines();
@@ -111,6 +112,30 @@ public final class TextTest {
         CALLS.due("about(0) of nothing", shire.about(0), 0);
     }
 
+    /** Nothing of an earlier text, right or wrong, stays behind in a later one. */
+    private static void promise4Again() {
+        FrothShire shire = new FrothShire();
+        String full = FIVE + "flip a b;flip d e;".repeat(6) + "straw 9;draw 8;grows sides*2;";
+        for (int i = 0; i < 3; i++) {
+            CALLS.due("shire() of all, " + i, Calls.tell(shire, full), 5);
+            CALLS.due("about(11) of all, " + i, shire.about(11), 2);
+            CALLS.due("about(13) of all, " + i, shire.about(13), 9);
+            shire.season();
+            shire.seen(0, 4, true);
+            CALLS.due("fits(0) of all, " + i, shire.fits(0), 0);
+            CALLS.due("shire() of a FAULT, " + i, Calls.tell(shire, "straw 3;draw 4;grows 5;" + FIVE + "?"), -1);
+            CALLS.due("shire() of three, " + i, Calls.tell(shire, THREE), 3);
+            int[] three = {3, 7, 2, 3, 0, 0, 0, 0, 0, 0, 0, 0, 0, 0};
+            for (int what = 0; what < 14; what++) {
+                CALLS.due("about(" + what + ") of three, " + i, shire.about(what), three[what]);
+            }
+            CALLS.due("lord(0, 4) of three, " + i, shire.lord(0, 4), -2);
+            CALLS.due("lord(2, 1) of three, " + i, shire.lord(2, 1), 3);
+            shire.seen(0, 2, true);
+            CALLS.due("fits(0) of three, " + i, shire.fits(0), 31);
+        }
+    }
+
     private static void promise5() {
         FrothShire shire = new FrothShire();
         CALLS.due("fault(0) at first", shire.fault(0), 0);
@@ -168,10 +193,14 @@ public final class TextTest {
         for (String word : own) {
             CALLS.dueFault("lord " + word + " size 1;", 2, 5);
         }
-        String[] free = {"e", "both", "one", "sum", "term", "unit", "line", "name", "n", "shire", "sizes", "siz"};
+        String[] free = {"e", "both", "one", "sum", "term", "unit", "line", "name", "n", "shire", "sizes", "siz", "cord",
+            "slip", "prows", "it", "xr", "ant", "hot", "tides", "fear", "words", "reason", "orders", "andy", "seasons"};
         for (String word : free) {
             CALLS.due("lord " + word, Calls.tell(new FrothShire(), "lord " + word + " size 1;"), 1);
         }
+        String alike = "lord a size 1;lord aa size 2;lord aaa size 3;lord b size 4 at aa a aaa;";
+        CALLS.due("NAMES that are alike", Calls.tell(new FrothShire(), alike), 4);
+        CALLS.dueFault("lord abcdefgh size 1;lord abcdefgi size 1;lord abcdefgh", 3, 47);
         CALLS.dueFault("lord a 5", 2, 7);
         CALLS.dueFault("lord a size a", 2, 12);
         CALLS.dueFault("lord a size 1 at a a a;", 2, 14);
@@ -270,6 +299,8 @@ public final class TextTest {
         String most = "not not not not not not not 0";
         FrothShire shire = Calls.told("lord a size 5;grows " + most + (" and " + most).repeat(29) + ";");
         CALLS.due("the longest formula", shire.lord(0, 4), 1);
+        shire = Calls.told("lord a size 5;grows " + most + (" and " + most).repeat(28) + " and not 1;");
+        CALLS.due("the longest formula, not so", shire.lord(0, 4), 0);
     }
 
     private static void values() {
@@ -281,6 +312,15 @@ public final class TextTest {
         value("100/7/2", 7);
         value("7/2*2", 6);
         value("7%4", 3);
+        value("10%4*3", 6);
+        value("1+9%5", 5);
+        value("20/3%4", 2);
+        value("9-2*3", 3);
+        value("2*9-3", 15);
+        value("2+1=2+1", 1);
+        value("5=2+3", 1);
+        value("2+4<3*2", 0);
+        value("0=1 or 1", 1);
         value("(0-7)/2", -3);
         value("(0-7)%4", -3);
         value("7/(0-2)", -3);
