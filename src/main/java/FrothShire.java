@@ -1071,7 +1071,7 @@ public final class FrothShire {
         private int kind = NOTHING;
         private int start = 0;
         private int number = 0;
-        private char sign = ' ';
+        private int sign = 0;
         private int ownWord = NONE;
         private long name = 0;
 
@@ -1134,7 +1134,7 @@ public final class FrothShire {
                 scanNumber();
             } else if (SIGNS.indexOf((char) (text[at] & 255)) >= 0) {
                 kind = SIGN;
-                sign = (char) text[at];
+                sign = text[at];
                 at++;
             } else {
                 blame(NO_TOKEN);
@@ -1422,7 +1422,7 @@ public final class FrothShire {
                 }
                 return level == LEVEL_BOTH && ownWord == AND ? Formula.AND : 0;
             }
-            switch (kind == SIGN ? sign : ' ') {
+            switch (kind == SIGN ? sign : 0) {
                 case '<':
                     return level == LEVEL_ONE ? Formula.LESS : 0;
                 case '>':

@@ -9,6 +9,7 @@ import com.sun.source.tree.LambdaExpressionTree;
 import com.sun.source.tree.MemberReferenceTree;
 import com.sun.source.tree.MethodInvocationTree;
 import com.sun.source.tree.MethodTree;
+import com.sun.source.tree.NewArrayTree;
 import com.sun.source.tree.NewClassTree;
 import com.sun.source.tree.SynchronizedTree;
 import com.sun.source.tree.ThrowTree;
@@ -230,10 +231,21 @@ public final class LanguageTest {
 
         @Override
         public Void visitNewClass(NewClassTree tree, Void none) {
-            if (method != null && !method.getSimpleName().contentEquals("<init>")) {
-                brokenAt("rule 12: an object made outside a constructor", tree);
-            }
+            checkMaking(tree);
             return super.visitNewClass(tree, none);
+        }
+
+        @Override
+        public Void visitNewArray(NewArrayTree tree, Void none) {
+            checkMaking(tree);
+            return super.visitNewArray(tree, none);
+        }
+
+        /** Stricter than rule 12: all calls live in one room, so none of them makes anything. */
+        private void checkMaking(Tree tree) {
+            if (method != null && !method.getSimpleName().contentEquals("<init>")) {
+                brokenAt("rule 12: something made outside a constructor", tree);
+            }
         }
 
         @Override
