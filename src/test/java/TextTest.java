@@ -74,6 +74,21 @@ public final class TextTest {
         CALLS.due("shire()", shire.shire(), 0);
         CALLS.due("about(5)", shire.about(5), 123);
         CALLS.due("about(10)", shire.about(10), 0);
+        // what was behind the end is not looked at any more
+        dueCut("straw 12;", 7, 2, 7);
+        dueCut("lordx size 1;", 4, 2, 4);
+        dueCut("draw  \n  5;", 5, 2, 5);
+        dueCut("straw 5x;", 7, 2, 7);
+        dueCut("grows 12345;", 10, 2, 10);
+    }
+
+    private static void dueCut(String text, int length, int sort, int place) {
+        FrothShire shire = new FrothShire();
+        Calls.feed(shire, text);
+        CALLS.due("end(" + length + ") of " + text, shire.end(length), length);
+        CALLS.due("shire() of a part of " + text, shire.shire(), -1);
+        CALLS.due("fault(0) of a part of " + text, shire.fault(0), sort);
+        CALLS.due("fault(1) of a part of " + text, shire.fault(1), place);
     }
 
     private static void promise4() {
