@@ -476,6 +476,7 @@ public final class FrothShire {
     }
 
     public int ring(int lord) {
+        lyingCount = 0;
         if (!now.isThere(lord)) {
             return NONE;
         }

@@ -904,6 +904,7 @@ final class Oracle {
     }
 
     int ring(int lord) {
+        lying = List.of();
         if (!now.there.contains(lord)) {
             return NONE;
         }

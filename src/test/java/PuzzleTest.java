@@ -133,16 +133,21 @@ public final class PuzzleTest {
         CALLS.dueLying("ring(0)", shire, 1, 3, 2, 4);
         CALLS.due("ring(3)", shire.ring(3), 4);
         CALLS.dueLying("ring(3)", shire, 0, 1, 5, 2);
-        CALLS.due("ring(6)", shire.ring(6), -1);
-        CALLS.due("ring(-1)", shire.ring(-1), -1);
-        CALLS.due("ring(8)", shire.ring(8), -1);
-        CALLS.dueLying("ring(8): what lies there stays", shire, 0, 1, 5, 2);
+        for (int none : new int[] {6, -1, 8, Integer.MIN_VALUE, Integer.MAX_VALUE}) {
+            shire.ring(3);
+            CALLS.due("ring(" + none + ")", shire.ring(none), -1);
+            CALLS.dueLying("ring(" + none + "): nothing lies there", shire);
+        }
+        shire.banners();
+        CALLS.due("ring(6) behind banners()", shire.ring(6), -1);
+        CALLS.dueLying("ring(6) behind banners(): nothing lies there", shire);
         // b BORDERS c and d, who do not lie next to him about a
         shire = Calls.told(SIX);
         CALLS.due("ring(0) of six", shire.ring(0), 5);
         CALLS.dueLying("ring(0) of six", shire, 1, 4, 2, 3, 5);
         shire.pop(0, 5);
         CALLS.due("ring(5) when he is gone", shire.ring(5), -1);
+        CALLS.dueLying("ring(5) when he is gone: nothing lies there", shire);
         CALLS.due("ring(3)", shire.ring(3), 3);
         CALLS.dueLying("ring(3)", shire, 0, 1, 2);
         shire = Calls.told(THREE);
