@@ -52,6 +52,14 @@ final class AheadEdges {
             calls.due("season()", shire.season(), 0);
             calls.due("season()", shire.season(), 0);
             calls.due("lord(3, 1)", shire.lord(3, 1), 1);
+            // behind these a straw falls at once, whatever straw tells above 0: by straws boost(2, 5, 0) would be d f, or
+            // save(3, 3) a b, by which d has three SIDES
+            for (String straw : new String[] {"", "straw 1;draw 17;", "straw 1;draw 517;", "straw 100;draw 517;"}) {
+                shire = Calls.told(SIX + straw);
+                calls.due("boost(2, 5, 0), " + straw, shire.boost(2, 5, 0), 4);
+                calls.due("boost(2, 5, 1), " + straw, shire.boost(2, 5, 1), 11);
+                calls.due("save(3, 3), " + straw, shire.save(3, 3), 4);
+            }
         });
         // Behind its 512th call nothing is promised of an object; this one goes on as before.
         edges.edge("What lies ahead goes on beyond season 999, too.)", calls -> {

@@ -283,6 +283,10 @@ final class FrothEdges {
             value(calls, "not 0-5", 0);
             value(calls, "not 0", 1);
             value(calls, "not not 0-5", 1);
+            value(calls, "0-1 and 0-1", 1);
+            value(calls, "0-1 or 0", 1);
+            value(calls, "0 or 0-1", 1);
+            value(calls, "not 0-1", 0);
         });
         edges.edge(", -99 at least, 99 at most,", calls -> {
             value(calls, "99", 99);
@@ -511,6 +515,19 @@ final class FrothEdges {
             shire.gift(0, 2);
             calls.due("about(6)", shire.about(6), 31);
             calls.due("lord(0, 1)", shire.lord(0, 1), 42);
+            // many times as many
+            shire = Calls.told(FIVE);
+            for (int i = 0; i < 200; i++) {
+                shire.gift(1, 1);
+            }
+            for (int i = 0; i < 45; i++) {
+                calls.due("undo() of 200, number " + i, shire.undo(), i < 40);
+            }
+            calls.due("lord(1, 1) behind undo()", shire.lord(1, 1), 165);
+            for (int i = 0; i < 45; i++) {
+                calls.due("redo() of 200, number " + i, shire.redo(), i < 40);
+            }
+            calls.due("lord(1, 1) behind redo()", shire.lord(1, 1), 205);
         });
     }
 }

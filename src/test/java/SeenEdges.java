@@ -61,6 +61,13 @@ final class SeenEdges {
             calls.due("lord(4, 2)", shire.lord(4, 2), 4);
             shire.seen(1, 4, true);
             calls.due("fits(0): no straws", shire.fits(0), 0);
+            // as it was told last
+            Calls.tell(shire, FOUR + "lord e size 5 at a b c;flip a b;grows 0;");
+            shire.seen(0, 4, true);
+            calls.due("fits(0) of another SHIRE", shire.fits(0), 31);
+            Calls.tell(shire, "lord a size 1;");
+            shire.seen(0, 1, false);
+            calls.due("fits(0) of one alone", shire.fits(0), 31);
         });
         edges.edge("but for the SIZE of the last LORD at first, which is not known:", calls -> {
             for (int size : new int[] {0, 1, 30, 31, 999}) {
@@ -119,6 +126,14 @@ final class SeenEdges {
             shire.seen(7, 3, false);
             calls.due("ask(0, 0) of 5 .. 7: 5 or 6", shire.ask(0, 0), 5);
             calls.due("ask(1, 0) of 5 .. 7", shire.ask(1, 0), 2);
+            // 0 and 1 can't be told from one another, 2 can, at once
+            shire = Calls.told(FOUR);
+            shire.seen(2, 3, false);
+            calls.due("ask(0, 0) of 0 .. 2", shire.ask(0, 0), 1);
+            calls.due("ask(1, 0) of 0 .. 2", shire.ask(1, 0), 2);
+            shire.seen(1, 3, true);
+            calls.due("ask(0, 0) of 2", shire.ask(0, 0), 0);
+            calls.due("ask(1, 0) of 2", shire.ask(1, 0), 1);
             shire = Calls.told("lord a size 1;");
             calls.due("ask(0, 0): nothing tells, so the first", shire.ask(0, 0), 0);
             calls.due("ask(1, 0): nothing tells", shire.ask(1, 0), 31);
@@ -271,6 +286,14 @@ final class SeenEdges {
             calls.due("sure(1, 0)", shire.sure(1, 0), 30);
             calls.due("sure(0, 1)", shire.sure(0, 1), 4);
             calls.due("sure(1, 1)", shire.sure(1, 1), 7);
+            shire.seen(6, 3, true);
+            calls.due("sure(0, 1) of 7 alone", shire.sure(0, 1), 7);
+            calls.due("sure(1, 1) of 7 alone", shire.sure(1, 1), 7);
+            // of four SIDES he loses one at once, if he has no SIZE at first, and keeps them else
+            shire = Calls.told(FOUR + "lord e size 1 at a b c;flip a b;");
+            shire.seen(1, 4, false);
+            calls.due("sure(0, 0) of 0 alone", shire.sure(0, 0), 0);
+            calls.due("sure(1, 0) of 0 alone", shire.sure(1, 0), 0);
         });
         edges.edge("NONE if none FITS,", calls -> {
             FrothShire shire = Calls.told(FOUR);

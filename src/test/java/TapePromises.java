@@ -178,11 +178,16 @@ final class TapePromises {
                         Calls.all(shire).equals(Calls.all(Calls.told(text))), true);
                 calls.due("fits(0) is as of a new one: " + text, shire.fits(0), Calls.told(text).fits(0));
             }
-            // what a text with a FAULT told does not count for the next
+            // nothing of what was told before, rightly or with a FAULT, is told yet
+            String full = FIVE + "flip a b;flip d e;".repeat(6) + "straw 1;draw 2;grows 3;";
             FrothShire shire = new FrothShire();
-            Calls.tell(shire, FIVE + "flip a b;flip d e;".repeat(6) + "straw 1;draw 2;grows 3;?");
-            calls.due("shire() behind a FAULT",
-                    Calls.tell(shire, FIVE + "flip a b;flip d e;".repeat(6) + "straw 1;draw 2;grows 3;"), 5);
+            for (int i = 0; i < 4; i++) {
+                calls.due("shire() of all, " + i, Calls.tell(shire, full), 5);
+                calls.due("all is as of all, " + i, Calls.all(shire).equals(Calls.all(Calls.told(full))), true);
+                calls.due("shire() of a FAULT, " + i, Calls.tell(shire, i % 2 == 0 ? full + "?" : "?"), -1);
+                calls.due("shire() of three, " + i, Calls.tell(shire, THREE), 3);
+                calls.due("all is as of three, " + i, Calls.all(shire).equals(Calls.all(Calls.told(THREE))), true);
+            }
         });
     }
 

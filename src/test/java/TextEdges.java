@@ -86,9 +86,17 @@ final class TextEdges {
             dueLine(calls, "", "lord a size 1 ;", 1);
             dueLine(calls, THREE, "lord d size 1 at a b c ;", 4);
             calls.dueFault(THREE + "lord d size 1 at a b c a ;", 2, THREE.length() + 23);
+            // nothing can be left out
+            calls.dueFault("lord size 1;", 2, 5);
+            calls.dueFault("lord a 1;", 2, 7);
+            calls.dueFault("lord a size;", 2, 11);
+            calls.dueFault(THREE + "lord d size 1 a b c;", 2, THREE.length() + 14);
+            calls.dueFault(THREE + "lord d size 1 at a b;", 2, THREE.length() + 20);
+            calls.dueFault("lord a size 1 lord b size 1;", 2, 14);
         });
         edges.edge("| flip NAME NAME ;", calls -> {
             dueLine(calls, FIVE, "flip a b ;", 5);
+            calls.dueFault(FIVE + "flip a;", 2, FIVE.length() + 6);
             calls.dueFault(FIVE + "flip a b c ;", 2, FIVE.length() + 9);
         });
         edges.edge("| grows e ;", calls -> dueLine(calls, "", "grows 5 ;", 0));
@@ -215,7 +223,11 @@ final class TextEdges {
                 calls.dueFault("flip " + word + " a;", 2, 5);
                 calls.dueFault(THREE + "flip a " + word + ";", 2, THREE.length() + 7);
                 calls.dueFault(THREE + "lord d size 1 at a " + word + " c;", 2, THREE.length() + 19);
-                dueRight(calls, "lord x" + word + " size 1;", 1);
+                // words that are nearly these are NAMES
+                String first = word.substring(0, word.length() - 1);
+                for (String name : new String[] {"x" + word, word + "x", "x" + word.substring(1), first + "x"}) {
+                    dueRight(calls, "lord " + name + " size 1;", 1);
+                }
             }
         });
     }
@@ -303,6 +315,8 @@ final class TextEdges {
             // ( e ) is a unit, too
             calls.due("about(11) with ( e )", Calls.told("grows 1" + "+1".repeat(27) + "+(1);").about(11), 30);
             calls.dueFault("grows 1" + "+1".repeat(28) + "+(1);", 2, 65);
+            // all that stands within an e, in ( ) too, is in it
+            calls.dueFault("grows (1" + "+1".repeat(14) + ")+(1" + "+1".repeat(13) + ");", 2, 65);
         });
         edges.edge("(a unit ( e ), or a one behind not, within 6 others at most).", calls -> {
             calls.due("( ) within 6", Calls.told("grows (((((((1)))))));").about(11), 8);
@@ -316,6 +330,10 @@ final class TextEdges {
             // beside one another they are not within one another
             dueRight(calls, "grows (((((((1)))))))+(((((((1)))))));", 0);
             dueRight(calls, "grows " + "not ".repeat(7) + "1 or " + "not ".repeat(7) + "1;", 0);
+            // all that can be: 30 units, seven nots ahead of each
+            String most = "not ".repeat(7) + "0";
+            value(calls, most + (" and " + most).repeat(29), 1);
+            value(calls, most + (" and " + most).repeat(28) + " and " + "not ".repeat(7) + "1", 0);
         });
     }
 
@@ -373,6 +391,9 @@ final class TextEdges {
         edges.edge("a unit too many, what is within 7 others: at its first TOKEN, or the not);", calls -> {
             calls.dueFault("grows 1" + "+1".repeat(29) + "*season;", 2, 66);
             calls.dueFault("grows 1" + "+1".repeat(29) + " and(1);", 2, 69);
+            // where no unit stands, either
+            calls.dueFault("grows 1" + "+1".repeat(29) + "+;", 2, 66);
+            calls.dueFault("grows (1" + "+1".repeat(28) + "+);", 2, 65);
             // the not is not the unit
             calls.dueFault("grows 1" + "+1".repeat(29) + " and not 1;", 2, 74);
             calls.dueFault("grows (((((((not 1)))))));", 2, 13);
@@ -383,6 +404,9 @@ final class TextEdges {
             calls.dueFault(THREE + "lord c size 1 at a b c;", 3, THREE.length() + 5);
             calls.dueFault("lord abcdefgh size 1;lord abcdefgh size 1;", 3, 26);
             dueRight(calls, "lord abcdefgh size 1;lord abcdefg size 1;lord bcdefgh size 1;", 3);
+            dueRight(calls, "lord ab size 1;lord ba size 1;lord aa size 1;lord a size 1 at ba ab aa;", 4);
+            dueRight(calls, "lord az size 1;lord ba size 1;lord z size 1;", 3);
+            dueRight(calls, "lord abcdefgh size 1;lord abcdefgi size 1;lord bbcdefgh size 1;", 3);
         });
         edges.edge("three LORDS who have no CORNER (at the third NAME),", calls -> {
             calls.dueFault(THREE + "lord d size 1 at a b b;", 3, THREE.length() + 21);
