@@ -189,7 +189,7 @@ final class TapePromises {
                 calls.due("all is as of three, " + i, Calls.all(shire).equals(Calls.all(Calls.told(THREE))), true);
             }
             // nor is a CORNER of it there yet
-            Calls.tell(shire, FIVE + "lord f size 6 at a b d;?");
+            Calls.tell(shire, FIVE + "lord f size 6 at a b d;straw;");
             String other = FIVE.replace("e size 4 at a b c", "e size 4 at a b d") + "lord f size 6 at b c e;";
             calls.due("shire() of a CORNER of before", Calls.tell(shire, other), -1);
             calls.due("fault(0) of a CORNER of before", shire.fault(0), 3);
